@@ -35,12 +35,15 @@ public final class ProfileHmm {
 
     /** Of all beginnings that lead to a point, the sum of the weights. */
     private final long[] weightBefore = new long[POINTS];
-    /** Of all endings that go on from a point: the sum of the weights, the number, and so on. */
+    /** Of all endings that go on from a point, the sum of the weights. */
     private final long[] weightAfter = new long[POINTS];
+    /** The number of those endings. */
     private final int[] endings = new int[POINTS];
+    /** Their greatest score, the first step of the first that has it, and how many have it. */
     private final int[] greatest = new int[POINTS];
     private final int[] firstKind = new int[POINTS];
     private final int[] greatestCount = new int[POINTS];
+    /** Their least score. */
     private final int[] least = new int[POINTS];
     /** The greatest score of an ending of r steps, or NONE, with one layer of points for each r. */
     private final int[] greatestOf = new int[(MOST_STEPS + 1) * POINTS];

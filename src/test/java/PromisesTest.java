@@ -362,6 +362,13 @@ public final class PromisesTest {
         due("14: match at once", y.bestStep(0), 0);
         due("14: delete behind it", y.bestStep(1), 2);
         due("14: no third step", y.bestStep(2), NONE);
+        // The one way of the empty word is best even with the score 0.
+        ProfileHmm z = new ProfileHmm(2);
+        z.pass(0, 2, 0);
+        z.pass(2, 2, 0);
+        due("14: a delete with the score 0", z.bestStep(0), 2);
+        due("14: and another", z.bestStep(1), 2);
+        due("14: no more deletes", z.bestStep(2), NONE);
     }
 
     private static void bestOf() {
@@ -416,6 +423,8 @@ public final class PromisesTest {
         x.pass(2, 1, 0);
         x.pass(0, 2, 1);
         due("17: worst of another way", x.worst(), 1);
+        x.pass(2, 1, 3);
+        due("17: worst by one", x.worst(), 4);
         x.pass(0, 1, 0);
         x.pass(1, 2, 0);
         due("17: worst may be 0", x.worst(), 0);
