@@ -1,4 +1,5 @@
-// One method for each promise, with answers worked out by hand from the document.
+// One method for each promise, with answers worked out by hand from the document. What is refused
+// has its tests in RefusalTest, the least and the greatest in ExtremesTest.
 public final class PromisesTest {
     private static final int LOW = Integer.MIN_VALUE;
     private static final int HIGH = Integer.MAX_VALUE;
@@ -19,9 +20,7 @@ public final class PromisesTest {
         newObject();
         columns();
         like();
-        likeRefuses();
         pass();
-        passRefuses();
         letter();
         clear();
         length();
@@ -111,26 +110,6 @@ public final class PromisesTest {
         }
     }
 
-    private static void likeRefuses() {
-        ProfileHmm x = with(2, 1);
-        for (int bad : new int[] {LOW, -1, 0, 3, 4, HIGH}) {
-            due("3: like of column " + bad, x.like(bad, 0, 5), BAD_ARG);
-        }
-        for (int bad : new int[] {LOW, -1, 4, HIGH}) {
-            due("3: like of letter " + bad, x.like(1, bad, 5), BAD_ARG);
-            due("3: like of letter " + bad, x.like(2, bad, 5), BAD_ARG);
-        }
-        for (int bad : new int[] {LOW, -1, 10, HIGH}) {
-            due("3: like to " + bad, x.like(1, 0, bad), BAD_ARG);
-        }
-        for (int j = 1; j <= 2; j++) {
-            for (int a = 0; a < 4; a++) {
-                due("3: a refused like changes nothing", x.like(j, a, 1), 1);
-            }
-        }
-        due("3: a refused like leaves the sum", x.sum(), 5);
-    }
-
     private static void pass() {
         ProfileHmm x = new ProfileHmm(1);
         for (int k = 0; k < 9; k++) {
@@ -141,22 +120,6 @@ public final class PromisesTest {
             due("4: pass after 9", x.pass(k / 3, k % 3, 0), 9);
             due("4: pass after 0", x.pass(k / 3, k % 3, 3), 0);
         }
-    }
-
-    private static void passRefuses() {
-        ProfileHmm x = with(2, 1);
-        for (int bad : new int[] {LOW, -1, 3, HIGH}) {
-            due("4: pass from " + bad, x.pass(bad, 0, 5), BAD_ARG);
-            due("4: pass to kind " + bad, x.pass(0, bad, 5), BAD_ARG);
-            due("4: pass to kind " + bad, x.pass(1, bad, 5), BAD_ARG);
-        }
-        for (int bad : new int[] {LOW, -1, 10, HIGH}) {
-            due("4: pass to " + bad, x.pass(0, 0, bad), BAD_ARG);
-        }
-        for (int k = 0; k < 9; k++) {
-            due("4: a refused pass changes nothing", x.pass(k / 3, k % 3, 1), 1);
-        }
-        due("4: a refused pass leaves the sum", x.sum(), 5);
     }
 
     private static void letter() {
