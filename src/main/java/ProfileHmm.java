@@ -253,7 +253,9 @@ public final class ProfileHmm {
     }
 
     private int pointAfter(int kind, int i, int j) {
-        return (i + lettersOf(kind)) * POINTS_IN_ROW + (j + columnsOf(kind)) * KINDS + kind;
+        int lettersRead = i + lettersOf(kind);
+        int columnsDone = j + columnsOf(kind);
+        return pointAt(lettersRead, columnsDone, kind);
     }
 
     /** The step goes on from i letters and j columns: a match there is at column j + 1. */

@@ -94,6 +94,8 @@ public final class FaceTest {
         for (Field field : face.getDeclaredFields()) {
             Class<?> type = field.getType();
             boolean fixed = Modifier.isStatic(field.getModifiers());
+            boolean changing = fixed && !Modifier.isFinal(field.getModifiers());
+            due("changing static field " + field.getName(), changing, false);
             Class<?> plain = type.isArray() && !fixed ? type.getComponentType() : type;
             boolean allowed = plain.isPrimitive() && plain != float.class && plain != double.class;
             due("allowed type of " + field.getName(), allowed, true);

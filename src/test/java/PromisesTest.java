@@ -18,6 +18,7 @@ public final class PromisesTest {
 
     public static void main(String[] args) {
         newObject();
+        objectsAreApart();
         columns();
         like();
         pass();
@@ -82,6 +83,21 @@ public final class PromisesTest {
                 }
             }
         }
+    }
+
+    private static void objectsAreApart() {
+        ProfileHmm x = small();
+        ProfileHmm y = with(4, 1, 1, 1);
+        due("1: columns beside another object", x.columns(), 1);
+        due("1: length beside another object", x.length(), 1);
+        due("1: sum beside another object", x.sum(), 68);
+        y.like(1, 2, 9);
+        y.pass(0, 0, 9);
+        y.clear();
+        due("1: sum after calls on another object", x.sum(), 68);
+        due("1: liking after calls on another object", x.like(1, 2, 3), 3);
+        due("1: passage after calls on another object", x.pass(0, 0, 2), 2);
+        due("1: length of the other object", y.length(), 0);
     }
 
     private static void columns() {

@@ -1,9 +1,12 @@
 import java.util.ArrayList;
+import java.util.HashMap;
 import java.util.List;
+import java.util.Map;
 import java.util.function.ToLongFunction;
 
 // One method for each sentence of the document that refuses a call or an argument: what is refused
-// answers its code and changes no later answer, what stands just inside the boundary is taken.
+// answers its code and changes no later answer, what stands just inside the boundary is taken. Each
+// is tried with every number of columns and at every length of the word.
 public final class RefusalTest {
     private static final int LOW = Integer.MIN_VALUE;
     private static final int HIGH = Integer.MAX_VALUE;
@@ -19,6 +22,9 @@ public final class RefusalTest {
 
     // All letters are among the first four, and it is as long as a word may be.
     private static final int[] LETTERS = {2, 0, 3, 1, 1, 2, 0};
+
+    // What marked objects answer that nobody called before, by their columns and length.
+    private static final Map<String, List<String>> UNCALLED = new HashMap<>();
 
     private static int wrong = 0;
 
@@ -62,7 +68,7 @@ public final class RefusalTest {
     private static ProfileHmm marked(int columns, int length) {
         ProfileHmm x = new ProfileHmm(columns);
         for (int k = 0; k < 9; k++) {
-            x.pass(k / 3, k % 3, k + 1);
+            x.pass(k / 3, k % 3, markedPassage(k / 3, k % 3));
         }
         for (int j = 1; j <= columns; j++) {
             for (int a = 0; a < 4; a++) {
@@ -73,6 +79,10 @@ public final class RefusalTest {
             x.letter(LETTERS[i]);
         }
         return x;
+    }
+
+    private static int markedPassage(int p, int q) {
+        return 3 * p + q + 1;
     }
 
     private static int markedLiking(int j, int a) {
@@ -150,19 +160,26 @@ public final class RefusalTest {
     private static void refuses(
             String name, int columns, int length, ToLongFunction<ProfileHmm> call, long code) {
         ProfileHmm x = marked(columns, length);
-        String at = name + " with L " + columns + ", n " + length;
-        due(at, call.applyAsLong(x), code);
+        String at = " with L " + columns + ", n " + length;
+        due(name + at, call.applyAsLong(x), code);
         List<String> got = allAnswers(x);
-        List<String> want = allAnswers(marked(columns, length));
+        List<String> want =
+            UNCALLED.computeIfAbsent(at, key -> allAnswers(marked(columns, length)));
         for (int k = 0; k < want.size(); k++) {
-            due("after " + at, got.get(k), want.get(k));
+            due("after " + name + at, got.get(k), want.get(k));
         }
     }
 
-    private static void refusesAtSomeLengths(
+    private static void refusesAtEveryLength(
             String name, int columns, ToLongFunction<ProfileHmm> call, long code) {
-        for (int length : new int[] {0, 3, 7}) {
+        for (int length = 0; length <= 7; length++) {
             refuses(name, columns, length, call, code);
+        }
+    }
+
+    private static void refusesEverywhere(String name, ToLongFunction<ProfileHmm> call, long code) {
+        for (int columns = 1; columns <= 4; columns++) {
+            refusesAtEveryLength(name, columns, call, code);
         }
     }
 
@@ -255,7 +272,7 @@ public final class RefusalTest {
                 for (int a = 0; a < 4; a++) {
                     int letter = a;
                     String name = "like(" + j + ", " + a + ", 5)";
-                    refusesAtSomeLengths(name, columns, x -> x.like(j, letter, 5), BAD_ARG);
+                    refusesAtEveryLength(name, columns, x -> x.like(j, letter, 5), BAD_ARG);
                 }
             }
         }
@@ -268,7 +285,7 @@ public final class RefusalTest {
                 for (int j = 1; j <= columns; j++) {
                     int column = j;
                     String name = "like(" + j + ", " + a + ", 5)";
-                    refusesAtSomeLengths(name, columns, x -> x.like(column, a, 5), BAD_ARG);
+                    refusesAtEveryLength(name, columns, x -> x.like(column, a, 5), BAD_ARG);
                 }
             }
         }
@@ -277,35 +294,39 @@ public final class RefusalTest {
     // Promise 3: "BAD_ARG if [...] x not 0 to 9."
     private static void likeToNoValue() {
         for (int value : outside(0, 9)) {
-            for (int j = 1; j <= 4; j++) {
-                int column = j;
-                for (int a = 0; a < 4; a++) {
-                    int letter = a;
+            for (int columns = 1; columns <= 4; columns++) {
+                for (int k = 0; k < 4 * columns; k++) {
+                    int j = 1 + k / 4;
+                    int a = k % 4;
                     String name = "like(" + j + ", " + a + ", " + value + ")";
-                    refusesAtSomeLengths(name, 4, x -> x.like(column, letter, value), BAD_ARG);
+                    refusesAtEveryLength(name, columns, x -> x.like(j, a, value), BAD_ARG);
                 }
             }
-            refusesAtSomeLengths("like(5, 4, " + value + ")", 4, x -> x.like(5, 4, value), BAD_ARG);
+            refusesEverywhere("like(5, 4, " + value + ")", x -> x.like(5, 4, value), BAD_ARG);
         }
     }
 
     // Promise 3: "Otherwise what it was."
     private static void likeOtherwiseAnswersWhatItWas() {
         for (int columns = 1; columns <= 4; columns++) {
-            for (int j = 1; j <= columns; j++) {
-                for (int a = 0; a < 4; a++) {
-                    ProfileHmm x = marked(columns, 7);
-                    String at = "like of " + j + " and " + a + " with L " + columns;
-                    due(at + " to 0", x.like(j, a, 0), markedLiking(j, a));
-                    due(at + " to 9", x.like(j, a, 9), 0);
-                    due(at + " to 9 again", x.like(j, a, 9), 9);
-                    due(at + " to 0 again", x.like(j, a, 0), 9);
-                    due(at + " to 10", x.like(j, a, 10), BAD_ARG);
-                    due(at + " behind a refused one", x.like(j, a, markedLiking(j, a)), 0);
-                    due(at + " and all the rest", allAnswers(x), allAnswers(marked(columns, 7)));
+            for (int length = 0; length <= 7; length++) {
+                for (int k = 0; k < 4 * columns; k++) {
+                    likeAnswersWhatItWas(columns, length, 1 + k / 4, k % 4);
                 }
             }
         }
+    }
+
+    private static void likeAnswersWhatItWas(int columns, int length, int j, int a) {
+        ProfileHmm x = marked(columns, length);
+        String at = "like of " + j + " and " + a + " with L " + columns + ", n " + length;
+        due(at + " to 0", x.like(j, a, 0), markedLiking(j, a));
+        due(at + " to 9", x.like(j, a, 9), 0);
+        due(at + " to 9 again", x.like(j, a, 9), 9);
+        due(at + " to 0 again", x.like(j, a, 0), 9);
+        due(at + " to 10", x.like(j, a, 10), BAD_ARG);
+        due(at + " behind a refused one", x.like(j, a, markedLiking(j, a)), 0);
+        due(at + " and all the rest", allAnswers(x), allAnswers(marked(columns, length)));
     }
 
     // Promise 4: "BAD_ARG if p or q is not 0 to 2", for p.
@@ -314,7 +335,7 @@ public final class RefusalTest {
             for (int q = 0; q < 3; q++) {
                 int kind = q;
                 String name = "pass(" + p + ", " + q + ", 5)";
-                refusesAtSomeLengths(name, 3, x -> x.pass(p, kind, 5), BAD_ARG);
+                refusesEverywhere(name, x -> x.pass(p, kind, 5), BAD_ARG);
             }
         }
     }
@@ -325,7 +346,7 @@ public final class RefusalTest {
             for (int p = 0; p < 3; p++) {
                 int kind = p;
                 String name = "pass(" + p + ", " + q + ", 5)";
-                refusesAtSomeLengths(name, 3, x -> x.pass(kind, q, 5), BAD_ARG);
+                refusesEverywhere(name, x -> x.pass(kind, q, 5), BAD_ARG);
             }
         }
     }
@@ -337,34 +358,42 @@ public final class RefusalTest {
                 int p = k / 3;
                 int q = k % 3;
                 String name = "pass(" + p + ", " + q + ", " + value + ")";
-                refusesAtSomeLengths(name, 3, x -> x.pass(p, q, value), BAD_ARG);
+                refusesEverywhere(name, x -> x.pass(p, q, value), BAD_ARG);
             }
-            refusesAtSomeLengths("pass(3, 3, " + value + ")", 3, x -> x.pass(3, 3, value), BAD_ARG);
+            refusesEverywhere("pass(3, 3, " + value + ")", x -> x.pass(3, 3, value), BAD_ARG);
         }
     }
 
     // Promise 4: "Otherwise what it was."
     private static void passOtherwiseAnswersWhatItWas() {
-        for (int k = 0; k < 9; k++) {
-            ProfileHmm x = marked(4, 7);
-            int p = k / 3;
-            int q = k % 3;
-            String at = "pass of " + p + " and " + q;
-            due(at + " to 0", x.pass(p, q, 0), k + 1);
-            due(at + " to 9", x.pass(p, q, 9), 0);
-            due(at + " to 9 again", x.pass(p, q, 9), 9);
-            due(at + " to 0 again", x.pass(p, q, 0), 9);
-            due(at + " to 10", x.pass(p, q, 10), BAD_ARG);
-            due(at + " behind a refused one", x.pass(p, q, k + 1), 0);
-            due(at + " and all the rest", allAnswers(x), allAnswers(marked(4, 7)));
+        for (int columns = 1; columns <= 4; columns++) {
+            for (int length = 0; length <= 7; length++) {
+                for (int k = 0; k < 9; k++) {
+                    passAnswersWhatItWas(columns, length, k / 3, k % 3);
+                }
+            }
         }
+    }
+
+    private static void passAnswersWhatItWas(int columns, int length, int p, int q) {
+        ProfileHmm x = marked(columns, length);
+        String at = "pass of " + p + " and " + q + " with L " + columns + ", n " + length;
+        due(at + " to 0", x.pass(p, q, 0), markedPassage(p, q));
+        due(at + " to 9", x.pass(p, q, 9), 0);
+        due(at + " to 9 again", x.pass(p, q, 9), 9);
+        due(at + " to 0 again", x.pass(p, q, 0), 9);
+        due(at + " to 10", x.pass(p, q, 10), BAD_ARG);
+        due(at + " behind a refused one", x.pass(p, q, markedPassage(p, q)), 0);
+        due(at + " and all the rest", allAnswers(x), allAnswers(marked(columns, length)));
     }
 
     // Promise 5: "a not 0 to 3 answers BAD_ARG".
     private static void letterThatIsNone() {
-        for (int length = 0; length <= 6; length++) {
-            for (int a : outside(0, 3)) {
-                refuses("letter(" + a + ")", 2, length, x -> x.letter(a), BAD_ARG);
+        for (int columns = 1; columns <= 4; columns++) {
+            for (int length = 0; length <= 6; length++) {
+                for (int a : outside(0, 3)) {
+                    refuses("letter(" + a + ")", columns, length, x -> x.letter(a), BAD_ARG);
+                }
             }
         }
     }
@@ -389,14 +418,18 @@ public final class RefusalTest {
         }
     }
 
-    // Promise 5: "Otherwise the new n.", for the least and the greatest letter.
+    // Promise 5: "Appends letter a to the word." and "Otherwise the new n.", for each letter. When
+    // the last letter is matched at column 1, only inserts stand before it and deletes behind it.
     private static void letterOtherwiseAnswersTheNewLength() {
-        for (int a = 0; a <= 3; a++) {
-            ProfileHmm x = new ProfileHmm(1);
-            x.like(1, a, 7);
-            for (int n = 1; n <= 7; n++) {
-                due("letter " + a + " as number " + n, x.letter(a), n);
-                due("the match of letter " + a + " as number " + n, x.matched(n - 1, 1), 7L);
+        for (int columns = 1; columns <= 4; columns++) {
+            for (int a = 0; a <= 3; a++) {
+                ProfileHmm x = new ProfileHmm(columns);
+                x.like(1, a, 7);
+                for (int n = 1; n <= 7; n++) {
+                    String at = "letter " + a + " as number " + n + " with L " + columns;
+                    due(at, x.letter(a), n);
+                    due("the match of " + at, x.matched(n - 1, 1), 7L);
+                }
             }
         }
     }
@@ -405,8 +438,13 @@ public final class RefusalTest {
     private static void matchedAtNoPlace() {
         for (int length = 0; length <= 7; length++) {
             for (int i : outside(0, length - 1)) {
-                refuses("matched(" + i + ", 1)", 3, length, x -> x.matched(i, 1), 0);
-                refuses("matched(" + i + ", 3)", 3, length, x -> x.matched(i, 3), 0);
+                for (int columns = 1; columns <= 4; columns++) {
+                    for (int j = 1; j <= columns; j++) {
+                        int column = j;
+                        String name = "matched(" + i + ", " + j + ")";
+                        refuses(name, columns, length, x -> x.matched(i, column), 0);
+                    }
+                }
             }
             for (int i = 0; i < length; i++) {
                 // With one column, a match at place i has inserts before and behind it.
@@ -419,13 +457,15 @@ public final class RefusalTest {
         }
     }
 
-    // Promise 9: "0 if there is no such [...] column."
+    // Promise 9: "0 if there is no such [...] column.", at each place and just outside.
     private static void matchedAtNoColumn() {
         for (int columns = 1; columns <= 4; columns++) {
             for (int j : outside(1, columns)) {
-                refusesAtSomeLengths("matched(0, " + j + ")", columns, x -> x.matched(0, j), 0);
-                refusesAtSomeLengths("matched(2, " + j + ")", columns, x -> x.matched(2, j), 0);
-                refusesAtSomeLengths("matched(6, " + j + ")", columns, x -> x.matched(6, j), 0);
+                for (int i = -1; i <= 7; i++) {
+                    int place = i;
+                    String name = "matched(" + i + ", " + j + ")";
+                    refusesAtEveryLength(name, columns, x -> x.matched(place, j), 0);
+                }
             }
             for (int j = 1; j <= columns; j++) {
                 // With one letter, a match at column j has deletes before and behind it.
@@ -440,7 +480,7 @@ public final class RefusalTest {
     private static void deletedAtNoColumn() {
         for (int columns = 1; columns <= 4; columns++) {
             for (int j : outside(1, columns)) {
-                refusesAtSomeLengths("deleted(" + j + ")", columns, x -> x.deleted(j), 0);
+                refusesAtEveryLength("deleted(" + j + ")", columns, x -> x.deleted(j), 0);
             }
             for (int j = 1; j <= columns; j++) {
                 long deleted = new ProfileHmm(columns).deleted(j);
@@ -453,8 +493,9 @@ public final class RefusalTest {
     private static void insertedAtNoPlace() {
         for (int length = 0; length <= 7; length++) {
             for (int i : outside(0, length - 1)) {
-                refuses("inserted(" + i + ")", 1, length, x -> x.inserted(i), 0);
-                refuses("inserted(" + i + ")", 4, length, x -> x.inserted(i), 0);
+                for (int columns = 1; columns <= 4; columns++) {
+                    refuses("inserted(" + i + ")", columns, length, x -> x.inserted(i), 0);
+                }
             }
             for (int i = 0; i < length; i++) {
                 // Without matches the one delete stands before, between or behind the inserts.
