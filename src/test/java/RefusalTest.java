@@ -64,7 +64,7 @@ public final class RefusalTest {
         }
     }
 
-    // Passages 1 to 9 and likings of many values, so that hardly a change could go unseen.
+    // Passages 9 to 1 and likings of many values, so that hardly a change could go unseen.
     private static ProfileHmm marked(int columns, int length) {
         ProfileHmm x = new ProfileHmm(columns);
         for (int k = 0; k < 9; k++) {
@@ -82,7 +82,7 @@ public final class RefusalTest {
     }
 
     private static int markedPassage(int p, int q) {
-        return 3 * p + q + 1;
+        return 9 - 3 * p - q;
     }
 
     private static int markedLiking(int j, int a) {
@@ -98,16 +98,18 @@ public final class RefusalTest {
     }
 
     // Some 150 calls: what is held, the answers of every question, then those of the changes that
-    // may come. What is refused comes behind the questions: if it did harm, it would do the same
-    // harm to an object that was not called before, and the two would no longer differ.
-    private static List<String> allAnswers(ProfileHmm x) {
+    // may come. What is held comes first, and what is refused behind the questions: a call that
+    // did harm would do the same harm to an object that was not called before, and from there on
+    // the two would no longer differ.
+    private static List<String> allAnswers(ProfileHmm x, int columns, int length) {
         List<String> all = new ArrayList<>();
-        all.add("columns() " + x.columns());
+        addValues(x, columns, all);
+        all.add("sum() " + x.sum());
         all.add("length() " + x.length());
-        addValues(x, all);
-        addSums(x, all);
-        addScores(x, all);
-        addNone(x, all);
+        all.add("columns() " + x.columns());
+        addSums(x, columns, length, all);
+        addScores(x, columns, length, all);
+        addNone(x, columns, length, all);
         for (int a = 3; a >= 0; a--) {
             all.add("letter(" + a + ") " + x.letter(a));
             all.add("then sum() " + x.sum());
@@ -119,8 +121,8 @@ public final class RefusalTest {
     }
 
     // A value can only be seen by setting another: it is set back at once.
-    private static void addValues(ProfileHmm x, List<String> all) {
-        for (int j = 1; j <= x.columns(); j++) {
+    private static void addValues(ProfileHmm x, int columns, List<String> all) {
+        for (int j = 1; j <= columns; j++) {
             for (int a = 0; a < 4; a++) {
                 int was = x.like(j, a, 0);
                 x.like(j, a, was);
@@ -134,44 +136,43 @@ public final class RefusalTest {
         }
     }
 
-    private static void addSums(ProfileHmm x, List<String> all) {
-        all.add("sum() " + x.sum());
+    private static void addSums(ProfileHmm x, int columns, int length, List<String> all) {
         all.add("next() " + x.next());
-        for (int j = 1; j <= x.columns(); j++) {
+        for (int j = 1; j <= columns; j++) {
             all.add("deleted(" + j + ") " + x.deleted(j));
         }
-        for (int i = 0; i < x.length(); i++) {
+        for (int i = 0; i < length; i++) {
             all.add("inserted(" + i + ") " + x.inserted(i));
-            for (int j = 1; j <= x.columns(); j++) {
+            for (int j = 1; j <= columns; j++) {
                 all.add("matched(" + i + ", " + j + ") " + x.matched(i, j));
             }
         }
     }
 
-    private static void addScores(ProfileHmm x, List<String> all) {
+    private static void addScores(ProfileHmm x, int columns, int length, List<String> all) {
         all.add("ways() " + x.ways());
         all.add("best() " + x.best());
         all.add("ties() " + x.ties());
         all.add("worst() " + x.worst());
-        int fewest = Math.max(x.columns(), x.length());
+        int fewest = Math.max(columns, length);
         for (int s = 0; s < fewest; s++) {
             all.add("bestStep(" + s + ") " + x.bestStep(s));
         }
-        for (int s = fewest; s <= x.columns() + x.length(); s++) {
+        for (int s = fewest; s <= columns + length; s++) {
             all.add("bestOf(" + s + ") " + x.bestOf(s));
         }
     }
 
     // What lies outside, and the steps that the best way may or may not have.
-    private static void addNone(ProfileHmm x, List<String> all) {
-        for (int s = Math.max(x.columns(), x.length()); s <= 12; s++) {
+    private static void addNone(ProfileHmm x, int columns, int length, List<String> all) {
+        for (int s = Math.max(columns, length); s <= 12; s++) {
             all.add("bestStep(" + s + ") " + x.bestStep(s));
         }
-        for (int j : new int[] {0, x.columns() + 1}) {
+        for (int j : new int[] {0, columns + 1}) {
             all.add("deleted(" + j + ") " + x.deleted(j));
             all.add("matched(0, " + j + ") " + x.matched(0, j));
         }
-        for (int i = x.length(); i <= 7; i++) {
+        for (int i = length; i <= 7; i++) {
             all.add("inserted(" + i + ") " + x.inserted(i));
             all.add("matched(" + i + ", 1) " + x.matched(i, 1));
         }
@@ -189,11 +190,11 @@ public final class RefusalTest {
     }
 
     private static void isAsUncalled(String name, ProfileHmm x, int columns, int length) {
-        List<String> got = allAnswers(x);
+        List<String> got = allAnswers(x, columns, length);
         List<String> want = UNCALLED.computeIfAbsent(
-            columns + " " + length, key -> allAnswers(marked(columns, length)));
-        due(name + " the number of answers", got.size(), want.size());
-        for (int k = 0; k < Math.min(got.size(), want.size()); k++) {
+            columns + " " + length,
+            key -> allAnswers(marked(columns, length), columns, length));
+        for (int k = 0; k < want.size(); k++) {
             due(name, got.get(k), want.get(k));
         }
     }
@@ -579,11 +580,19 @@ public final class RefusalTest {
                     x.like(1 + k / 4, k % 4, 0);
                 }
                 bestHasSteps(x, columns + length);
-                for (int s : outside(0, columns + length - 1)) {
+                for (int s : outside(0, stepsOfMarked(columns, length) - 1)) {
                     refuses("bestStep(" + s + ")", columns, length, y -> y.bestStep(s), NONE);
                 }
             }
         }
+    }
+
+    // The best way of a marked object has as few steps as can be or, at these few, one more.
+    private static int stepsOfMarked(int columns, int length) {
+        boolean more = columns == 2 && length == 2
+            || columns == 3 && (length == 3 || length == 4)
+            || columns == 4 && length >= 3 && length <= 6;
+        return Math.max(columns, length) + (more ? 1 : 0);
     }
 
     private static void bestHasSteps(ProfileHmm x, int steps) {
